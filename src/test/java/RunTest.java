@@ -15,6 +15,7 @@ final class RunTest {
         aChildAloneEnds();
         theBoundOfOne();
         theBoundWithChildren();
+        howDeepAtMost();
         aboutAndSaidBeyondTheirRange();
         Calls.finish();
     }
@@ -162,6 +163,10 @@ final class RunTest {
         Calls d = new Calls().with(0, "call A\nback\nA:\nlet a a + 1\nback");
         d.ends(0, 999, 105, 1);
         d.registerIs(0, 1);
+        // calls that were open at the end of a run aren't any more in the next
+        Calls e = new Calls().with(0, "if a = 1 go B\ncall A\nA:\nexit 4\nB:\nback");
+        e.ends(0, 9, 4, 3);
+        e.ends(1, 9, 105, 5);
     }
 
     private static void exitsForRun() {
@@ -263,6 +268,16 @@ final class RunTest {
         Calls.due("begun", e.x.about(5), 501);
         e.registerIs(0, 500);
         e.registerIs(1, 499 & 63);
+    }
+
+    private static void howDeepAtMost() {
+        Calls c = new Calls().with(0, "if a = 1 go Z\nrun b 1 0\nrun b 2 0\nZ:").with(1, "run b 2 0").with(2, "exit 1");
+        c.ends(0, 99, 0, 4);
+        Calls.due("deep", c.x.about(3), 2);
+        Calls.due("begun", c.x.about(5), 4);
+        c.ends(1, 99, 0, 4);
+        Calls.due("deep", c.x.about(3), 0);
+        Calls.due("begun", c.x.about(5), 1);
     }
 
     private static void aboutAndSaidBeyondTheirRange() {

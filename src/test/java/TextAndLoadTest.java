@@ -65,7 +65,9 @@ final class TextAndLoadTest {
         Calls c = new Calls();
         for (int program : new int[] {-1, 4, Integer.MIN_VALUE, Integer.MAX_VALUE}) {
             Calls.due("no such number", c.load(program, "exit 1"), -2);
+            c.with(0, "exit 1");
             Calls.due("no such number, ill", c.load(program, "nonsense"), -2);
+            c.with(0, "exit 1");
         }
         Calls.due("ill", c.load(0, "nonsense "), 0);
         c.with(0, "exit 2");
