@@ -522,7 +522,6 @@ public final class StepPrograms {
             registers[0] = argument;
             open = 0;
             next = 0;
-            line = 0;
         }
 
         int valueOf(int operand) {

@@ -2,26 +2,66 @@
 final class Calls {
     private static int checked = 0;
     private static int wrong = 0;
+    private static int sentences = 0;
+    private static int checkedBefore = 0;
+    private static String heading = "";
 
     final StepPrograms x = new StepPrograms();
+
+    /** Names the document's words by which the answers from here on are due. */
+    static void sentence(String promise, String words) {
+        endSentence();
+        sentences++;
+        heading = promise + ", \"" + words + "\": ";
+        checkedBefore = checked;
+    }
+
+    /** A sentence without an answer looked at would be a test in name alone. */
+    private static void endSentence() {
+        if (sentences > 0 && checked == checkedBefore) {
+            wrong++;
+            System.out.println(heading + "nothing was looked at");
+        }
+    }
+
+    private static void tellWrong(String what, String got, String want) {
+        wrong++;
+        System.out.println(heading + what + " answered " + got + ", due is " + want);
+    }
 
     static void due(String what, long got, long want) {
         checked++;
         if (got != want) {
-            wrong++;
-            System.out.println(what + " answered " + got + ", due is " + want);
+            tellWrong(what, "" + got, "" + want);
         }
     }
 
     static void due(String what, boolean got, boolean want) {
-        due(what, got ? 1 : 0, want ? 1 : 0);
+        checked++;
+        if (got != want) {
+            tellWrong(what, "" + got, "" + want);
+        }
+    }
+
+    static void due(String what, String got, String want) {
+        checked++;
+        if (!got.equals(want)) {
+            tellWrong(what, got, want);
+        }
     }
 
     static void finish() {
-        System.out.println(checked + " answers looked at, " + wrong + " wrong");
+        endSentence();
+        String named = sentences == 0 ? "" : sentences + " sentences, ";
+        System.out.println(named + checked + " answers looked at, " + wrong + " wrong");
         if (wrong != 0 || checked == 0) {
             System.exit(1);
         }
+    }
+
+    /** What lies just outside of a range, and as far outside as an int can. */
+    static int[] outside(int first, int last) {
+        return new int[] {first - 1, last + 1, Integer.MIN_VALUE, Integer.MAX_VALUE};
     }
 
     /** Up to eight characters as text takes them. */
@@ -59,6 +99,15 @@ final class Calls {
         return this;
     }
 
+    /** Forty bytes: 1 to 8, five times. */
+    Calls withFullFile(int file) {
+        due("clear", x.clear(file, true), true);
+        for (int i = 0; i < 5; i++) {
+            due("file", x.file(file, 0x0102030405060708L, 8), true);
+        }
+        return this;
+    }
+
     Calls planted() {
         for (int what = 0; what < 3; what++) {
             due("plant", x.plant(what, true), true);
@@ -91,10 +140,58 @@ final class Calls {
         due("said behind the last", x.said(which, bytes.length), StepPrograms.NONE);
     }
 
-    /** The value that register a has behind a program of one let, or of more lines. */
-    static int valueOf(String source, int argument) {
+    /** All that the calls show: FILES, and of the latest run about, OUT, ERR and registers. */
+    String shown() {
+        return shownFiles() + shownAbout() + shownSpeech() + shownRegisters();
+    }
+
+    String shownFiles() {
+        StringBuilder s = new StringBuilder();
+        for (int file = 0; file < 10; file++) {
+            s.append(" file ").append(file).append(" of ").append(x.size(file)).append(':');
+            for (int i = 0; i < x.size(file); i++) {
+                s.append(' ').append(x.byteOf(file, i));
+            }
+        }
+        return s.toString();
+    }
+
+    private String shownAbout() {
+        StringBuilder s = new StringBuilder(" about:");
+        for (int what = 0; what < 6; what++) {
+            s.append(' ').append(x.about(what));
+        }
+        return s.toString();
+    }
+
+    String shownSpeech() {
+        StringBuilder s = new StringBuilder();
+        for (int which = 0; which < 2; which++) {
+            s.append(" said ").append(which).append(':');
+            for (int i = 0; i < x.about(1 + which); i++) {
+                s.append(' ').append(x.said(which, i));
+            }
+        }
+        return s.toString();
+    }
+
+    String shownRegisters() {
+        StringBuilder s = new StringBuilder(" registers:");
+        for (int k = 0; k < 8; k++) {
+            s.append(' ').append(x.register(k));
+        }
+        return s.toString();
+    }
+
+    /** A program that is run at once, to its own end. */
+    static Calls ran(String source, int argument) {
         Calls c = new Calls().with(0, source);
         due("exit of " + source, c.x.run(0, argument, 2000), 0);
-        return c.x.register(0);
+        return c;
+    }
+
+    /** The value that register a has behind a program of one let, or of more lines. */
+    static int valueOf(String source, int argument) {
+        return ran(source, argument).x.register(0);
     }
 }

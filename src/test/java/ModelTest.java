@@ -10,7 +10,7 @@ import java.util.TreeMap;
  * that interprets the texts themselves. Also: no call throws, whatever its arguments.
  */
 final class ModelTest {
-    private static final int ROUNDS = 3000;
+    private static final int ROUNDS = 10000;
 
     public static void main(String[] args) {
         for (int seed = 0; seed < ROUNDS; seed++) {
@@ -367,8 +367,11 @@ final class ModelTest {
         }
     }
 
-    /** A run of calls from one seed, on both. */
+    /** A run of calls from one seed, on both: at most the 512 that an object is promised for. */
     private static final class Round {
+        private static final int LAST_CALL = 512;
+        /** What a call and the look at all behind it may take. */
+        private static final int CALLS_LEFT = 150;
         private static final int[] ODD = {-1, -2, 4, 8, 10, 31, 32, 40, 60, 2001, 1000000, 1000001, 1000007, -1000000,
             Integer.MIN_VALUE, Integer.MAX_VALUE};
         private static final String[] FORMS = {"let R X", "let R X O X", "let R X O X", "get R S", "put S X", "size R S", "read R S S",
@@ -378,6 +381,7 @@ final class ModelTest {
         private final Random random;
         private final StepPrograms x = new StepPrograms();
         private final Model model = new Model();
+        private int calls;
 
         Round(int seed) {
             name = "seed " + seed + ": ";
@@ -388,10 +392,21 @@ final class ModelTest {
             for (int i = 0; i < 3; i++) {
                 loadSome();
             }
-            for (int i = 0; i < 30; i++) {
+            while (calls < LAST_CALL - CALLS_LEFT) {
                 callSome();
             }
             compareAll();
+        }
+
+        private void due(String what, long got, long want) {
+            calls++;
+            if (calls <= LAST_CALL) {
+                Calls.due(name + what, got, want);
+            }
+        }
+
+        private void due(String what, boolean got, boolean want) {
+            due(what, got ? 1 : 0, want ? 1 : 0);
         }
 
         private int draw(int n) {
@@ -459,16 +474,16 @@ final class ModelTest {
         private void loadSome() {
             String text = source();
             for (int i = 0; i < text.length(); ) {
-                int n = Math.min(1 + draw(8), text.length() - i);
+                int n = Math.min(draw(4) == 0 ? 1 + draw(8) : 8, text.length() - i);
                 textOnBoth(Calls.packed(text.substring(i, i + n)));
                 i += n;
             }
             int program = draw(20) == 0 ? number(4) : draw(4);
-            Calls.due(name + "load", x.load(program), model.load(program));
+            due("load", x.load(program), model.load(program));
         }
 
         private void textOnBoth(long w) {
-            Calls.due(name + "text", x.text(w), model.text(w));
+            due("text", x.text(w), model.text(w));
         }
 
         private void callSome() {
@@ -479,16 +494,18 @@ final class ModelTest {
                 case 0 -> loadSome();
                 case 1 -> {
                     long w = random.nextLong();
-                    Calls.due(name + "file", x.file(k, w, n), model.file(k, w, n));
+                    due("file", x.file(k, w, n), model.file(k, w, n));
                 }
-                case 2 -> Calls.due(name + "clear", x.clear(k, on), model.clear(k, on));
+                case 2 -> due("clear", x.clear(k, on), model.clear(k, on));
                 case 3 -> {
                     int what = number(3);
-                    Calls.due(name + "plant", x.plant(what, on), model.plant(what, on));
+                    due("plant", x.plant(what, on), model.plant(what, on));
                 }
                 case 4 -> {
                     if (draw(8) == 0) {
                         textOnBoth(random.nextLong());
+                    } else {
+                        lookSomewhere();
                     }
                 }
                 default -> runSome();
@@ -499,31 +516,39 @@ final class ModelTest {
             int program = number(4);
             int argument = number(10);
             int bound = draw(3) == 0 ? 1 + draw(30) : draw(4) == 0 ? number(2001) : 1 + draw(400);
-            Calls.due(name + "run", x.run(program, argument, bound), model.run(program, argument, bound));
+            due("run", x.run(program, argument, bound), model.run(program, argument, bound));
             compareAll();
         }
 
         private void compareAll() {
             for (int what = -1; what < 7; what++) {
-                Calls.due(name + "about " + what, x.about(what), model.about(what));
+                due("about " + what, x.about(what), model.about(what));
             }
-            for (int i = -1; i < 62; i++) {
-                Calls.due(name + "said", x.said(0, i), model.said(0, i));
-                Calls.due(name + "said", x.said(1, i), model.said(1, i));
+            for (int k = -1; k < 9; k++) {
+                due("register " + k, x.register(k), model.register(k));
             }
-            for (int k = -1; k < 11; k++) {
-                Calls.due(name + "register " + k, x.register(k), model.register(k));
-                Calls.due(name + "size", x.size(k), model.size(k));
-                for (int i = -1; i < 42; i++) {
-                    Calls.due(name + "byteOf", x.byteOf(k, i), model.byteOf(k, i));
+            for (int which = 0; which < 2; which++) {
+                for (int i = 0; i <= model.said.get(which).size(); i++) {
+                    due("said " + which, x.said(which, i), model.said(which, i));
                 }
             }
-            int which = number(3);
+            for (int file = 0; file < 10; file++) {
+                due("size " + file, x.size(file), model.size(file));
+                for (int i = 0; i < model.size(file); i++) {
+                    due("byteOf " + file, x.byteOf(file, i), model.byteOf(file, i));
+                }
+            }
+        }
+
+        private void lookSomewhere() {
+            int k = number(10);
             int i = number(60);
-            Calls.due(name + "said", x.said(which, i), model.said(which, i));
-            Calls.due(name + "byteOf", x.byteOf(which, i), model.byteOf(which, i));
-            Calls.due(name + "register", x.register(i), model.register(i));
-            Calls.due(name + "about", x.about(i), model.about(i));
+            due("said", x.said(k & 1, i), model.said(k & 1, i));
+            due("said of any", x.said(k, i), model.said(k, i));
+            due("size", x.size(k), model.size(k));
+            due("byteOf", x.byteOf(k, i), model.byteOf(k, i));
+            due("register", x.register(k), model.register(k));
+            due("about", x.about(k), model.about(k));
         }
     }
 }
